@@ -692,19 +692,28 @@ public final class DriftKin {
         final int[] before = new int[PIECES];
         final int[] fewest = new int[1 << PIECES];
         final int[] lasts = new int[1 << PIECES];
+        int usable = 0;
 
         void lay(Pieces pieces) {
-            int usable = pieces.bitsNotBurnt();
+            // Calls for the same planks come together: what was laid last stands until a joint or a burning changes it.
+            boolean stands = usable == pieces.bitsNotBurnt();
+            usable = pieces.bitsNotBurnt();
             for (int next = 0; next < before.length; next++) {
-                int bits = 0;
-                for (int one = 0; one < PIECES; one++) {
-                    if (pieces.joins(one, next)) bits |= 1 << one;
-                }
+                int bits = joinedBy(pieces, next);
+                if (before[next] != bits) stands = false;
                 before[next] = bits;
             }
-            for (int set = 1; set < fewest.length; set++) {
+            for (int set = 1; set < fewest.length && !stands; set++) {
                 if ((set & ~usable) == 0) layLast(set);
             }
+        }
+
+        static int joinedBy(Pieces pieces, int next) {
+            int bits = 0;
+            for (int one = 0; one < PIECES; one++) {
+                if (pieces.joins(one, next)) bits |= 1 << one;
+            }
+            return bits;
         }
 
         /**
@@ -730,7 +739,6 @@ public final class DriftKin {
         }
 
         int longestBits(Pieces pieces) {
-            int usable = pieces.bitsNotBurnt();
             int best = 0;
             int most = 0;
             for (int set = 1; set < fewest.length; set++) {

@@ -342,6 +342,11 @@ public final class DriftKinPromises {
         due("zeroes lead", x.same(2, 3, 0), 8);
         due("by 5", x.same(2, 3, 5), 3);
         due("by -5", x.same(2, 3, -5), 3);
+        x.rings(5, 78912345);
+        x.rings(6, 33333789);
+        due("the last s alone", x.lie(6, 5, 1), 10);
+        due("the last s, how many", x.lie(6, 5, 0), 3);
+        due("the first s alone", x.lie(5, 6, 1), 0);
         x.rings(4, 11111111);
         due("none is the same, the least s", x.lie(3, 4, 1), 0);
         due("none is the same", x.lie(3, 4, 0), 0);
@@ -507,6 +512,8 @@ public final class DriftKinPromises {
         due("m 100", x.book(0, 100, 0), OUTSIDE);
         due("what 3", x.book(0, 1, 3), OUTSIDE);
         due("what -1", x.book(0, 1, -1), OUTSIDE);
+        due("seed 0, which draws 74: H takes piece 9, that is not ashore", x.book(0, 1, 0), 0);
+        due("seed 9999, 99 acts", x.book(9999, 99, 2), 0);
         // Seed 4 draws 374 (G burns: none), 28124 (D and H wed), 12190 (D burns), 62343 (a year).
         did(x, "0123H0D1A2");
         due("one draw, houses", x.book(4, 1, 0), 3);
