@@ -224,4 +224,15 @@ final class PieceEdges extends Edges {
         due("the lowest digit alone", x.rings(2, 1), 1);
         due("another piece is left alone", x.told(26), 0);
     }
+
+    @Says(of = 4, value = "a row of eight digits (digit 0 the first as it is written, the highest; 00000000 at first)")
+    static void digitNoughtIsTheHighest() {
+        DriftKin x = new DriftKin();
+        x.rings(0, 12340000);
+        x.rings(1, 56781234);
+        due("digits 0 to 3 beside digits 4 to 7", x.same(0, 1, -4), 4);
+        x.rings(2, 1234);
+        x.rings(3, 12345678);
+        due("noughts lead a small row: digits 4 to 7 beside digits 0 to 3", x.same(2, 3, 4), 4);
+    }
 }

@@ -2,6 +2,18 @@
 final class RefusalEdges extends Edges {
     private static final String ORDER = "Calls that are refused answer, the first of these that fits: UNKNOWN -1";
 
+    @Says(of = 1, value = "UNKNOWN -1 (there is no such PIECE, HOUSE), OUTSIDE -2 (another number is not as told), NO -5 (as told), STATE -3 (as told), FULL -4.")
+    static void refusalsAreTheseNumbers() {
+        DriftKin x = pad("A".repeat(60));
+        due("UNKNOWN", x.rings(10, 0), -1);
+        due("OUTSIDE", x.rings(0, -1), -2);
+        due("STATE", x.restore(0), -3);
+        due("FULL", x.say('A'), -4);
+        due("NO", x.done(), -5);
+        due("NONE", x.match(0), -6);
+        due("each by its name", UNKNOWN * 100000L + OUTSIDE * 10000 + STATE * 1000 + FULL * 100 + NO * 10 + NONE, -123456);
+    }
+
     @Says(of = {12, 13, 20}, value = "Sets are bits.")
     static void setsAreBits() {
         due("ashore", pad("095").then(0), 1 + 32 + 512);

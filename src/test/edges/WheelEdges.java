@@ -56,6 +56,14 @@ final class WheelEdges extends Edges {
 
     // ---- the wheel
 
+    @Says(of = 20, value = "at a HOUSE the wheel was heard (it is in one of the eight HOUSES")
+    static void eachOfTheEightHouses() {
+        for (int house = 0; house < 8; house++) {
+            due("heard in " + house, wheel(house, 0, true), 1 << house);
+            due("not heard in " + house, wheel(house, 0, false), 255 - (1 << house));
+        }
+    }
+
     @Says(of = 20, value = "WHEEL: HOUSES in which it can be, as bits.")
     static void withoutSightsItCanBeAnywhere() {
         due("wheel", new DriftKin().wheel(), 255);
@@ -254,6 +262,39 @@ final class WheelEdges extends Edges {
         due("1, 1 and 3", x.saw(5, 1), 803);
     }
 
+    @Says(of = 22, value = "whether who begins can win (1, 0)")
+    static void whoBeginsCanWinOrNot() {
+        // All three pieces of 0 (at sea) to 5, against a search of the game that knows no rule for it.
+        for (int a = 0; a <= 5; a++) {
+            for (int b = 0; b <= a; b++) {
+                for (int c = 0; c <= b; c++) {
+                    DriftKin x = new DriftKin();
+                    ashore(x, 2, a);
+                    ashore(x, 5, b);
+                    ashore(x, 9, c);
+                    for (int k = 1; k <= 4; k++) due("saw by " + k, x.saw(k, 0), canWin(new int[] {a, b, c}, k) ? 1 : 0);
+                }
+            }
+        }
+    }
+
+    private static void ashore(DriftKin x, int piece, int length) {
+        if (length == 0) return;
+        x.piece(piece, piece, 0, length);
+        did(x, "" + piece);
+    }
+
+    private static boolean canWin(int[] lengths, int k) {
+        for (int i = 0; i < lengths.length; i++) {
+            for (int much = 1; much <= k && much <= lengths[i]; much++) {
+                int[] rest = lengths.clone();
+                rest[i] -= much;
+                if (!canWin(rest, k)) return true;
+            }
+        }
+        return false;
+    }
+
     @Says(of = 22, value = "Nothing is sawn in fact.")
     static void nothingIsSawnInFact() {
         DriftKin x = fullOfThings();
@@ -340,6 +381,22 @@ final class WheelEdges extends Edges {
         soon(x, 8, 2, 1, 624, 625);
         soon(x, 8, 2, 2, 576, 625);
         soon(x, 3, 2, 0, 51, 100);
+    }
+
+    @Says(of = 23, value = "by itself: that it does within n gales (0 to 15); that of two PIECES at least one does; that both do.")
+    static void oneGaleOfEachTenths() {
+        DriftKin x = new DriftKin();
+        for (int t = 0; t <= 10; t++) {
+            tenths(x, t, 0, t, 10);
+            tenths(x, t, 1, 100 - (10 - t) * (10 - t), 100);
+            tenths(x, t, 2, t * t, 100);
+        }
+    }
+
+    private static void tenths(DriftKin x, int t, int what, long upper, long lower) {
+        long shared = lower;
+        while (upper % shared != 0 || lower % shared != 0) shared--;
+        soon(x, t, 1, what, upper / shared, lower / shared);
     }
 
     @Says(of = 23, value = "how soon a piece comes in, by chance, exactly")
@@ -430,6 +487,17 @@ final class WheelEdges extends Edges {
         DriftKin x = kin("0123H0D1A2");
         due("one act", x.book(4, 1, 2), 0);
         due("two acts", x.book(4, 2, 2), 1);
+    }
+
+    @Says(of = 24, value = "by x left over by 8, of PIECE x by 8 (cut) left over by 10, HOUSE x by 8 (cut) left over by 8, HOUSE x by 64 (cut) left over by 8")
+    static void theLastPieceAndTheLastHouse() {
+        for (int seed = 0; seed < 10000; seed++) {
+            int draw = (75 * seed + 74) % 65537;
+            boolean last = draw % 8 == 2 && draw / 8 % 10 == 9 && draw / 64 % 8 == 7;
+            if (!last) continue;
+            due("H takes piece 9 by " + seed, kin("9").book(seed, 1, 0), 1);
+            due("no other does by " + seed, kin("012345678").book(seed, 1, 0), 0);
+        }
     }
 
     @Says(of = 24, value = "0, 1 the PIECE comes ASHORE")
@@ -527,6 +595,12 @@ final class WheelEdges extends Edges {
         due("98 years", x.told(1), 98);
         due("its one year", x.book(4, 4, 1), 198);
         due("no second one", x.book(4, 99, 1), 198);
+        // 15 gives 1199 (a year), then 24462 (B burns).
+        x = kin("01B0C1");
+        did(x, ".".repeat(60));
+        did(x, ".".repeat(39));
+        due("a year that can not be", x.book(15, 1, 0), 2);
+        due("what comes behind it is done", x.book(15, 2, 0), 1);
     }
 
     @Says(of = 24, value = "CHILDREN of all together")

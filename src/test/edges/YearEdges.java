@@ -443,6 +443,30 @@ final class YearEdges extends Edges {
         due("parted", x.told(211), NONE);
     }
 
+    @Says(of = 9, value = "- (it is parted from whom it is WED to)")
+    static void partingIsOfBothAndOfNoOthers() {
+        for (String parting : new String[] {"A-", "C-"}) {
+            DriftKin x = kin("0123A0B1C2D3A+CB+D." + parting + ".");
+            due("A by " + parting, x.told(201), NONE);
+            due("C by " + parting, x.told(221), NONE);
+            due("B by " + parting, x.told(211), 3);
+            due("D by " + parting, x.told(231), 1);
+            due("children of A and C stay", 10 * x.told(202) + x.told(222), 11);
+            due("B and D have more", 10 * x.told(212) + x.told(232), 22);
+            due("A is of its piece still", x.told(200), 0);
+        }
+    }
+
+    @Says(of = 9, value = "HOUSES 0 to 7 (A to H): each is of a PIECE, or of none (at first)")
+    static void allEightHousesAreOfAPiece() {
+        DriftKin x = kin("0123456789A9B8C7D6E5F4G3H2");
+        for (int h = 0; h < 8; h++) due("house " + h, x.told(200 + 10 * h), 9 - h);
+        did(x, "A*B*C*D*E*F*G*H*");
+        for (int h = 0; h < 8; h++) due("house " + h, x.told(200 + 10 * h), NONE);
+        for (int p = 2; p < 10; p++) due("piece " + p, x.told(10 * (1 + p) + 5), 3);
+        due("two are ashore", x.then(0), 3);
+    }
+
     @Says(of = 9, value = "it takes that PIECE home, and is of it")
     static void onlyTheTakerIsOfIt() {
         DriftKin x = kin("9");
