@@ -35,6 +35,10 @@ final class PlankEdges extends Edges {
         burn(x, "012345789");
         due("the only one", x.longest(1), 64);
         due("one plank", x.deck(), 1);
+        x = apart();
+        burn(x, "123456789");
+        due("the first one, asked for at once", x.deck(), 1);
+        due("how much", x.longest(0), 1);
     }
 
     @Says(of = {13, 14}, value = "A PLANK is a row of PIECES, each once")
